@@ -890,7 +890,6 @@ public final class PrinterLights {
             Arrays.fill(density, DENSITY_AT_FIRST);
             Arrays.fill(aim, NO_AIM);
             Arrays.fill(reelOf, NO_REEL);
-            Arrays.fill(hold, HOLD_AT_FIRST);
         }
 
         void begin(Scenes read) {

@@ -5,6 +5,7 @@ public final class GradingTest {
         grade();
         gradeLowest();
         gradeAsThingsAre();
+        gradeSixteen();
         frameTone();
         Check.end();
     }
@@ -106,6 +107,20 @@ public final class GradingTest {
         Check.due("19: a TABLE", x.grade(1, 1, 2, 0), PrinterLights.NONE);
         Check.due("19: the other STOCK", x.grade(2, 1, 2, 0), 36);
         Check.due("19: LIGHT is not changed", x.light(0, 2), 1);
+    }
+
+    private static void gradeSixteen() {
+        PrinterLights x = new PrinterLights();
+        Check.load(x, Check.sixteenShots(1));
+        x.rule(1, 0);
+        for (int shot = 0; shot < 16; shot++) {
+            x.shot(shot, 0, 0, 0);
+            // exposures 21 and 64: POINTS 1 and 44
+            x.shot(shot, 0, 1, shot % 2 == 0 ? 45 : 250);
+        }
+        Check.due("19: the steps of sixteen SHOTS", x.grade(0, 0, 0, -1), 15 * 43);
+        Check.due("19: the last of sixteen SHOTS", x.grade(0, 0, 0, 15), 44);
+        Check.due("19: the last but one", x.grade(0, 0, 0, 14), 1);
     }
 
     private static void frameTone() {

@@ -81,12 +81,8 @@ public final class ListsTest {
         faultAt("|s0,1,1,1,1,;");
         faultAt("|s00000,1,1,1,1;");
         faultAt("|s0,00001,1,1,1;");
-        StringBuilder many = new StringBuilder();
-        for (int shot = 0; shot < 16; shot++) {
-            many.append('s').append(shot).append(",1,1,1,1;");
-        }
-        none(many.toString());
-        faultAt(many + "|s16,1,1,1,1;");
+        none(Check.sixteenShots(1));
+        faultAt(Check.sixteenShots(1) + "|s16,1,1,1,1;");
     }
 
     private static void faultOfFades() {
@@ -139,6 +135,9 @@ public final class ListsTest {
         faultAt("|c1 ;");
         faultAt("|,1;");
         faultAt("|c,1;");
+        faultAt("|s,1,1,1,1;");
+        faultAt("s0,9,1,1,1;|e,1,1;");
+        faultAt("s0,9,1,1,1;e0,1,1;|e,1,1;");
         faultAt("|x1;");
         faultAt("|cc1;");
         faultAt("c1;|s0,1,,1,1;");
@@ -172,11 +171,8 @@ public final class ListsTest {
         Check.due("13: densities stay", x.shot(1, 2, 0, 11), 11);
         Check.due("13: AIMS stay", x.shot(1, 2, 1, 12), 12);
         Check.due("13: where they come from stays", x.edge(2), 13);
-        StringBuilder most = new StringBuilder();
-        for (int shot = 0; shot < 16; shot++) {
-            most.append('s').append(shot).append(",400,1,1,1;");
-        }
-        Check.due("13: the most frames", Check.load(x, most.toString()), 6400);
+        Check.due("13: the most frames", Check.load(x, Check.sixteenShots(400)), 6400);
+        Check.due("13: the last of them", x.shotOf(6399), 15);
         Check.due("13: old FADES, EFFECTS are gone", fadesGone(), 5);
     }
 

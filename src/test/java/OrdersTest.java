@@ -7,6 +7,7 @@ public final class OrdersTest {
         planOfSeveral();
         keepAndBack();
         backToNoList();
+        backToOtherReels();
         count();
         Check.end();
     }
@@ -46,6 +47,11 @@ public final class OrdersTest {
         Check.due("34: the only one", x.drop(0), 0);
         Check.due("34: none left", x.drop(0), PrinterLights.BAD);
         Check.due("34: its number", x.order(1, 0, 1, 0), 0);
+        for (int k = 1; k < 8; k++) {
+            x.order(k, 0, 1, 0);
+        }
+        Check.due("34: of eight", x.drop(0), 7);
+        Check.due("34: of eight the last is there", x.drop(6), 6);
     }
 
     private static void planIs(PrinterLights x, int late, int bits, int[] zero, int[] one) {
@@ -185,6 +191,25 @@ public final class OrdersTest {
         y.back();
         Check.due("37: OPEN again", y.count(4), 1);
         Check.due("37: OPEN again", y.run(0), PrinterLights.NO);
+    }
+
+    private static void backToOtherReels() {
+        PrinterLights x = new PrinterLights();
+        Check.load(x, "s0,1,1,1,1;s1,1,1,1,1;");
+        x.reel(0, 0, 9);
+        x.reel(1, 0, 9);
+        x.from(1, 0, 5);
+        x.keep();
+        x.from(0, 1, 5);
+        x.from(1, 1, 6);
+        Check.due("36: no splice", x.splice(0), PrinterLights.NONE);
+        x.lose(1, true);
+        x.back();
+        Check.due("37: from none again", x.edge(0), PrinterLights.NONE);
+        Check.due("37: from its REEL again", x.where(0, 5), 1);
+        Check.due("37: not from the other", x.where(1, 6), PrinterLights.NONE);
+        Check.due("37: spliced again", x.splice(0), 100);
+        Check.due("37: whether a REEL is LOST is not KEPT", x.lose(1, false), 1);
     }
 
     private static void count() {

@@ -11,6 +11,7 @@ public final class ReelsTest {
         run();
         runTillOneOpens();
         wearByLight();
+        runSixteen();
         mend();
         Check.end();
     }
@@ -134,6 +135,13 @@ public final class ReelsTest {
             Check.due("29: " + b[0] + " " + b[1], x.where(b[0], b[1]), PrinterLights.BAD);
         }
         Check.due("29: 100000", x.where(0, 100000), PrinterLights.NONE);
+        Check.load(x, "s0,3,1,1,1;");
+        Check.due("29: a SHOT that is not in THE LIST", x.where(1, 20), PrinterLights.NONE);
+        Check.load(x, Check.sixteenShots(1));
+        x.reel(7, 3, 1);
+        x.from(15, 7, 3);
+        Check.due("29: the last of sixteen SHOTS", x.where(7, 3), 15);
+        Check.due("29: behind the last of sixteen SHOTS", x.where(7, 4), PrinterLights.NONE);
     }
 
     private static void splice() {
@@ -241,6 +249,17 @@ public final class ReelsTest {
         for (int k = 0; k < dueOfFades.length; k++) {
             Check.due("31: FADES and EFFECTS: " + k, x.splice(k), dueOfFades[k]);
         }
+    }
+
+    private static void runSixteen() {
+        PrinterLights x = new PrinterLights();
+        Check.load(x, Check.sixteenShots(400));
+        Check.due("28: sixteen SHOTS", x.missing(), 0xFFFF);
+        Check.due("30: the last splice of all", x.splice(14), 100);
+        Check.due("31: sixteen SHOTS", x.run(0), 16);
+        Check.due("31: the last splice of all", x.splice(14), 96);
+        Check.due("31: FEET", x.bathTold(0, 2), 400);
+        Check.due("31: tired four times", x.bathTold(0, 0), 780);
     }
 
     private static void mend() {

@@ -105,7 +105,7 @@ public final class SearchTest {
     private static void grade() {
         PrinterLights x = new PrinterLights();
         Check.load(x, "s0,1,1,1,1;s1,1,1,1,1;s2,1,1,1,1;");
-        x.rule(1, any(0, 12));
+        x.rule(1, any(0, 3) == 0 ? any(0, 60) : any(0, 3));
         int near = x.rule(1, 0);
         x.rule(1, near);
         x.lamp(1, any(0, 4));
@@ -113,8 +113,9 @@ public final class SearchTest {
         int[] density = new int[3];
         int[] aim = new int[3];
         for (int shot = 0; shot < 3; shot++) {
-            density[shot] = any(15, 40);
-            aim[shot] = any(0, 3) == 0 ? -1 : any(0, 180);
+            density[shot] = any(0, 40);
+            int points = any(0, 2) == 0 ? any(1, 3) : any(0, 2) == 0 ? any(48, 50) : any(1, 50);
+            aim[shot] = any(0, 4) == 0 ? -1 : x.tone(2, 1, points, density[shot], 1, 1) + any(0, 2);
             x.shot(shot, 1, 0, density[shot]);
             x.shot(shot, 1, 1, aim[shot]);
         }

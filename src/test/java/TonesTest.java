@@ -56,6 +56,7 @@ public final class TonesTest {
         Check.due("2: a NO changed nothing", x.table(1, 2, 3, 60), 110);
         Check.due("2: first, at most the second", x.table(1, 2, 0, 4), 0);
         Check.due("2: first, too much", x.table(1, 2, 0, 5), PrinterLights.NO);
+        Check.due("2: second, too little", x.table(1, 2, 1, 3), PrinterLights.NO);
         Check.due("2: last", x.table(1, 2, 8, 255), 250);
         Check.due("2: last, too little", x.table(1, 2, 8, 234), PrinterLights.NO);
         Check.due("2: other tables are as they were", x.table(1, 1, 8, 250), 250);
@@ -190,6 +191,9 @@ public final class TonesTest {
         Check.due("9: a COPY of a COPY", x.tone(0, 0, 50, 0, 0, 3), 238);
         Check.due("9: generation 4", x.tone(0, 0, 50, 0, 0, 4), 236);
         Check.due("9: generation 5", x.tone(0, 0, 50, 0, 0, 5), 236);
+        Check.due("9: at 64 of the last TABLE", x.tone(2, 2, 44, 0, 0, 1), 250);
+        x.table(0, 2, 1, 20);
+        Check.due("9: at 1", x.tone(0, 2, 11, 30, 0, 1), 2);
         x.table(2, 1, 0, 4);
         Check.due("9: another TABLE, below 0", x.tone(2, 1, 1, 60, 0, 1), 4);
         Check.due("9: below 0 in a COPY", x.tone(2, 1, 1, 60, 0, 2), 4);

@@ -32,6 +32,15 @@ final class Check {
         return x.load();
     }
 
+    /** A LIST of 16 SHOTS, which is as many as there may be, of some frames each. */
+    static String sixteenShots(int frames) {
+        StringBuilder text = new StringBuilder();
+        for (int shot = 0; shot < 16; shot++) {
+            text.append('s').append(shot).append(',').append(frames).append(",1,1,1;");
+        }
+        return text.toString();
+    }
+
     static int fault(String text) {
         PrinterLights x = new PrinterLights();
         write(x, text);
