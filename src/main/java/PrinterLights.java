@@ -30,7 +30,6 @@ public final class PrinterLights {
     private final Clock clock = new Clock();
     private final Grader grader = new Grader();
     private final Strips strips = new Strips();
-    private final Reels reels = new Reels();
     private final Orders orders = new Orders();
     private final Planner planner = new Planner();
     private int kept;
@@ -273,7 +272,7 @@ public final class PrinterLights {
         if (first + frames - 1 > MAX_EDGE) {
             return BAD;
         }
-        reels.tell(reel, first, frames);
+        job.reels.tell(reel, first, frames);
         return 0;
     }
 
@@ -281,11 +280,11 @@ public final class PrinterLights {
         if (!isReel(reel)) {
             return BAD;
         }
-        if (!reels.isTold(reel)) {
+        if (!job.reels.isTold(reel)) {
             return NO;
         }
-        int was = reels.lost[reel] ? 1 : 0;
-        reels.lost[reel] = lost;
+        int was = job.reels.lost[reel] ? 1 : 0;
+        job.reels.lost[reel] = lost;
         return was;
     }
 
@@ -293,7 +292,7 @@ public final class PrinterLights {
         if (!isShot(shot) || !isWithin(reel, Job.NO_REEL, REELS - 1) || !isWithin(edge, 0, MAX_EDGE)) {
             return BAD;
         }
-        if (reel != Job.NO_REEL && !reels.isTold(reel)) {
+        if (reel != Job.NO_REEL && !job.reels.isTold(reel)) {
             return NO;
         }
         job.reelOf[shot] = reel;
@@ -314,7 +313,7 @@ public final class PrinterLights {
         }
         int bits = 0;
         for (int shot = 0; shot < job.scenes.shots; shot++) {
-            if (!reels.hasAll(job.reelOf[shot], job.edgeOf[shot], job.scenes.framesOf(shot))) {
+            if (job.isMissing(shot)) {
                 bits |= 1 << shot;
             }
         }
@@ -420,7 +419,7 @@ public final class PrinterLights {
             case 1:
                 return strips.size;
             case 2:
-                return reels.countTold();
+                return job.reels.countTold();
             case 3:
                 return orders.size;
             case 4:
@@ -874,7 +873,7 @@ public final class PrinterLights {
         }
     }
 
-    /** What is KEPT: THE LIST with its SPLICES, and what is told of SHOTS. */
+    /** What is KEPT: THE LIST with its SPLICES, what is told of SHOTS, and REELS. */
     private static final class Job {
         static final int NO_AIM = -1, NO_REEL = -1, DENSITY_AT_FIRST = 30;
         static final int HOLD_AT_FIRST = 100, HOLD_BY_HAND = 80, JUMP = 10, JUMP_WEAR = 2;
@@ -884,6 +883,7 @@ public final class PrinterLights {
         final int[] aim = new int[SHOTS * COLOURS];
         final int[] reelOf = new int[SHOTS];
         final int[] edgeOf = new int[SHOTS];
+        final Reels reels = new Reels();
         final int[] hold = new int[SHOTS - 1];
 
         Job() {
@@ -910,6 +910,10 @@ public final class PrinterLights {
                 }
             }
             return NONE;
+        }
+
+        boolean isMissing(int shot) {
+            return !reels.hasAll(reelOf[shot], edgeOf[shot], scenes.framesOf(shot));
         }
 
         /** Whether a splice stands behind SHOT k. */
@@ -961,6 +965,7 @@ public final class PrinterLights {
             copy(other.aim, aim);
             copy(other.reelOf, reelOf);
             copy(other.edgeOf, edgeOf);
+            reels.copyFrom(other.reels);
             copy(other.hold, hold);
         }
 
@@ -982,6 +987,14 @@ public final class PrinterLights {
             first[reel] = firstEdge;
             frames[reel] = frameCount;
             lost[reel] = false;
+        }
+
+        void copyFrom(Reels other) {
+            copy(other.first, first);
+            copy(other.frames, frames);
+            for (int reel = 0; reel < REELS; reel++) {
+                lost[reel] = other.lost[reel];
+            }
         }
 
         boolean isTold(int reel) {

@@ -8,6 +8,7 @@ public final class OrdersTest {
         keepAndBack();
         backToNoList();
         backToOtherReels();
+        backToReelsAsTold();
         count();
         Check.end();
     }
@@ -209,7 +210,51 @@ public final class OrdersTest {
         Check.due("37: from its REEL again", x.where(0, 5), 1);
         Check.due("37: not from the other", x.where(1, 6), PrinterLights.NONE);
         Check.due("37: spliced again", x.splice(0), 100);
-        Check.due("37: whether a REEL is LOST is not KEPT", x.lose(1, false), 1);
+        Check.due("37: not LOST again", x.lose(1, false), 0);
+    }
+
+    private static void backToReelsAsTold() {
+        PrinterLights x = new PrinterLights();
+        Check.load(x, "s0,3,1,1,1;s1,3,1,1,1;");
+        x.reel(0, 10, 3);
+        x.from(0, 0, 10);
+        x.keep();
+        x.reel(0, 10, 2);
+        x.reel(7, 50, 9);
+        x.from(1, 7, 50);
+        x.lose(7, true);
+        Check.due("36: REELS are KEPT, not shared", x.missing(), 3);
+        Check.due("36: two", x.keep(), 2);
+        x.reel(7, 50, 9);
+        x.reel(3, 0, 1);
+        x.reel(0, 10, 3);
+        Check.due("36: none is missing", x.missing(), 0);
+        Check.due("36: three told", x.count(2), 3);
+        Check.due("37: KEPT last", x.back(), 1);
+        Check.due("37: as many frames, and LOST, as then", x.missing(), 3);
+        Check.due("37: two told", x.count(2), 2);
+        Check.due("37: 3 is not told", x.lose(3, true), PrinterLights.NO);
+        Check.due("37: 7 is LOST", x.lose(7, true), 1);
+        Check.due("37: KEPT first", x.back(), 0);
+        Check.due("37: as many frames as at first", x.missing(), 2);
+        Check.due("37: one told", x.count(2), 1);
+        Check.due("37: 7 is not told", x.lose(7, true), PrinterLights.NO);
+        Check.due("37: 7 is not told", x.from(1, 7, 50), PrinterLights.NO);
+        Check.due("37: NO changes nothing", x.back(), PrinterLights.NO);
+        Check.due("37: NO changes nothing", x.count(2), 1);
+        x.reel(0, 11, 3);
+        Check.due("37: told anew", x.missing(), 3);
+        x.keep();
+        x.reel(0, 10, 3);
+        x.back();
+        Check.due("37: the first EDGE as KEPT", x.missing(), 3);
+        PrinterLights y = new PrinterLights();
+        y.reel(2, 0, 1);
+        y.lose(2, true);
+        y.keep();
+        y.lose(2, false);
+        y.back();
+        Check.due("37: LOST as KEPT, without a LIST", y.lose(2, false), 1);
     }
 
     private static void count() {
