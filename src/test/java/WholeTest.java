@@ -43,6 +43,12 @@ public final class WholeTest {
         Map.entry("plan", new int[] {0, 27}), Map.entry("keep", NO_NUMBERS), Map.entry("back", NO_NUMBERS),
         Map.entry("count", new int[] {0, 6})));
 
+    /** Narrower bounds, by which calls meet one another: a few SHOTS, the first EDGES, near hours. */
+    private static final Map<String, int[]> OFTEN = Map.of("feet", new int[] {0, 1, 1, 300},
+        "shot", new int[] {0, 4, 0, 2, 0, 1, -1, 60}, "grade", new int[] {0, 2, 0, 1, 0, 2, -1, 4},
+        "reel", new int[] {0, 7, 0, 40, 1, 90}, "from", new int[] {0, 4, -1, 7, 0, 60}, "where", new int[] {0, 7, 0, 80},
+        "splice", new int[] {0, 5}, "order", new int[] {1, 40, 0, 60, 1, 20, 0, 5});
+
     private static final Map<String, Set<String>> SEEN = new TreeMap<>();
     private static long seed = 2038;
 
@@ -81,6 +87,8 @@ public final class WholeTest {
                 splicesGone();
             } else if (once(12)) {
                 aimNear();
+            } else if (once(40)) {
+                wornOut();
             } else {
                 String name = names[any(0, names.length - 1)];
                 boolean isRare = Set.of("clear", "noStrips", "drop", "load").contains(name);
@@ -97,44 +105,38 @@ public final class WholeTest {
         }
     }
 
-    private long[] anyNumbers(String name) {
-        int[] bounds = NUMBERS.get(name);
+    private static long[] anyNumbers(String name) {
+        int[] bounds = once(4) ? NUMBERS.get(name) : OFTEN.getOrDefault(name, NUMBERS.get(name));
         long[] numbers = new long[bounds.length / 2];
         for (int i = 0; i < numbers.length; i++) {
             numbers[i] = anyNumber(bounds[2 * i], bounds[2 * i + 1]);
         }
-        boolean isOften = !once(4);
-        if (isOften && name.equals("table")) {
-            numbers[3] = new int[] {0, 4, 20, 60, 110, 160, 205, 235, 250}[any(0, 8)] + any(0, 5);
-        } else if (isOften && name.equals("bath")) {
-            numbers[2] = numbers[1] == 1 ? any(1, 50) : any(600, 1000);
-        } else if (isOften && name.equals("feet")) {
-            numbers[1] = any(1, 300);
-        } else if (isOften && name.equals("rule")) {
-            numbers[1] = numbers[0] == 2 ? any(0, 3) : any(1, 20);
-        } else if (isOften && name.equals("strip")) {
-            numbers[2] = once(5) ? 100 : any(-2, 1);
-        } else if (isOften && name.equals("shot")) {
-            numbers[0] = any(0, 4);
-            numbers[3] = any(-1, 60);
-        } else if (isOften && name.equals("reel")) {
-            numbers[1] = once(4) ? 100000 - any(0, 60) : any(0, 40);
-            numbers[2] = any(1, 90);
-        } else if (isOften && name.equals("from")) {
-            numbers[0] = any(0, 4);
-            numbers[2] = any(0, 60);
-        } else if (isOften && name.equals("where")) {
-            numbers[1] = any(0, 80);
-        } else if (isOften && name.equals("order")) {
-            numbers[1] = any(0, 60);
-        } else if (isOften && name.equals("grade")) {
-            numbers[3] = any(-1, 4);
-        } else if (isOften && name.equals("splice")) {
-            numbers[0] = any(0, 5);
-        } else if (name.equals("write")) {
-            numbers[1] = once(2) ? seed : 0x63393B3939393BL + numbers[1];
+        if (!once(4)) {
+            fit(name, numbers);
         }
         return numbers;
+    }
+
+    /** Numbers whose bounds hang on another number, or which would be refused or answered alike too often. */
+    private static void fit(String name, long[] numbers) {
+        switch (name) {
+            case "table" -> numbers[3] = new int[] {0, 4, 20, 60, 110, 160, 205, 235, 250}[any(0, 8)] + any(0, 5);
+            case "bath" -> numbers[2] = numbers[1] == 1 ? edgeOrAny(1, 50) : any(600, 1000);
+            case "rule" -> {
+                int what = any(0, 3);
+                numbers[0] = what;
+                numbers[1] = edgeOrAny(new int[] {1, 0, 0, 1}[what], new int[] {48, 60, 3, 20}[what]);
+            }
+            case "strip" -> numbers[2] = once(5) ? 100 : any(-2, 1);
+            case "reel" -> numbers[1] = once(4) ? 100000 - any(0, 60) : numbers[1];
+            case "write" -> numbers[1] = once(2) ? seed : 0x63393B3939393BL + numbers[1];
+            default -> {
+            }
+        }
+    }
+
+    private static int edgeOrAny(int low, int high) {
+        return once(3) ? new int[] {low - 1, low, high, high + 1}[any(0, 3)] : any(low, high);
     }
 
     private static int anyNumber(int low, int high) {
@@ -178,7 +180,7 @@ public final class WholeTest {
     }
 
     private void write(String item) throws ReflectiveOperationException {
-        String text = once(60) ? item : item + ";";
+        String text = once(60) ? item : once(60) ? mangled(item + ";") : item + ";";
         for (int at = 0; at < text.length() && isRight; at += 8) {
             int n = Math.min(8, text.length() - at);
             long v = 0;
@@ -186,6 +188,28 @@ public final class WholeTest {
                 v = v << 8 | text.charAt(at + i);
             }
             ask("write", n, v);
+        }
+    }
+
+    /** A sign is taken out, put in, or is another one. */
+    private static String mangled(String item) {
+        int at = any(0, item.length() - 1);
+        String signs = "sfec0123456789,;x";
+        int sign = any(0, signs.length() - 1);
+        String put = once(3) ? "" : signs.substring(sign, sign + 1);
+        return item.substring(0, at) + put + item.substring(once(2) ? at : at + 1);
+    }
+
+    /** Runs till splices OPEN, and what they are SPLICED to. */
+    private void wornOut() throws ReflectiveOperationException {
+        ask("rule", 3, any(14, 20));
+        for (int run = any(3, 8); run > 0; run--) {
+            ask("run", any(0, 1));
+        }
+        ask("count", 4);
+        ask("mend");
+        for (int k = 0; k < 5; k++) {
+            ask("splice", k);
         }
     }
 
