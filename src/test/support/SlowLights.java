@@ -6,8 +6,9 @@ import java.util.regex.Matcher;
 import java.util.regex.Pattern;
 
 /**
- * The whole of DOC.md as a slow program, written from the document's first line on and not from the class: each frame
- * has its own lights, each foot goes through by itself, each drift is held against each strip, what is KEPT is a copy.
+ * The whole of DOC.md as a slow program that goes other ways than the class: each frame has its own lights, each foot
+ * goes through by itself, each drift is held against each strip, what is KEPT is a copy. It was written by one who had
+ * read the class, and takes the readings of NOTES.md: it shows slips of the class, not that such a reading is right.
  */
 final class SlowLights {
     private static final int BAD = -1, NO = -2, FULL = -3, NONE = -4;
